@@ -318,6 +318,8 @@ public final class PromiseTest {
         refused("apply to 68", full, () -> full.apply(1, 16, 16));
         refused("apply to 65", full, () -> full.apply(1, 16, 2));
         act("apply to 64", full, () -> full.apply(0, 16, 2), 64, A64);
+        put(full, 0, "b".repeat(16));
+        act("apply to b's, to 64", full, () -> full.apply(0, 2, 16), 64, A64);
         Checks.fails(full, ARGUMENT, "apply too long and x 1", () -> full.apply(0, 1, 31));
     }
 
@@ -539,7 +541,13 @@ public final class PromiseTest {
                 from -> garden.find(0, 1, from));
         forNone(garden, NO_SHEETS, INDEX, "find", sheet -> garden.find(sheet, 0, 0));
         forNone(garden, NO_SHEETS, INDEX, "find other", sheet -> garden.find(0, sheet, 0));
-        due("questions are no acts", garden.house(1) + garden.house(2), 0);
+        put(garden, 0, "abab");
+        garden.cutTo(0, 3);
+        put(garden, 1, "ab");
+        due("find does not see what was cut off", garden.find(0, 1, 1), -1);
+        int acts = garden.house(0);
+        garden.find(0, 1, 0);
+        due("a question is no act", garden.house(0), acts);
     }
 
     private static void p28FindLast() {
