@@ -4,15 +4,25 @@ import java.util.Objects;
 final class Checks {
     private static int made = 0;
     private static int wrong = 0;
+    private static String test = "";
 
     private Checks() {
+    }
+
+    /** What is checked from here on belongs to the test of this name. */
+    static void begin(String name) {
+        test = name + ": ";
+    }
+
+    static int soFar() {
+        return made;
     }
 
     static void same(String what, Object got, Object want) {
         made++;
         if (!Objects.equals(got, want)) {
             wrong++;
-            System.out.println(what + ": answered " + got + ", due is " + want);
+            System.out.println(test + what + ": answered " + got + ", due is " + want);
         }
     }
 

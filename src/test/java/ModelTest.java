@@ -1,11 +1,10 @@
-import java.lang.reflect.InvocationTargetException;
-import java.lang.reflect.Method;
 import java.util.ArrayList;
+import java.util.Arrays;
 import java.util.List;
 
-/** Holds Wordgarden against the model: in runs of drawn calls, and on all short words, rules and growths. */
+/** Holds Wordgarden against the model: in runs of drawn calls, and on all short words, rules, lines and growths. */
 public final class ModelTest {
-    /** Each call of the face and how its arguments are drawn. */
+    /** Each call of the face and how its arguments are drawn; acts first. */
     private static final String[] CALLS = {
         "write sheet code", "append sheet sheet", "insertSign sheet place flag", "insertSheet sheet place sheet",
         "setSign sheet place flag", "removeSign sheet place", "remove sheet place place",
@@ -19,9 +18,10 @@ public final class ModelTest {
         "size growth flag", "ups growth flag", "cross growth", "alike growth", "house what", "knock", "isSound",
         "digest",
     };
+    private static final int ACTS = 23;
     private static final int[] FAR = {Integer.MIN_VALUE, Integer.MAX_VALUE, Integer.MIN_VALUE + 1, 1 << 30, -1, 65};
-    private static final int RUNS = 400;
-    private static final int CALLS_IN_RUN = 500;
+    private static final int RUNS = 450;
+    private static final int CALLS_BETWEEN_DIGESTS = 10;
 
     private static long seed = 20261119L;
 
@@ -49,11 +49,11 @@ public final class ModelTest {
         }
     }
 
-    private static Object[] drawArguments(String[] call, Model model) {
-        Object[] arguments = new Object[call.length - 1];
+    private static Object[] drawArguments(Twin.Call call, Model model) {
+        Object[] arguments = new Object[call.kinds.length];
         int length = 0;
         for (int i = 0; i < arguments.length; i++) {
-            String kind = call[i + 1];
+            String kind = call.kinds[i];
             if (kind.equals("flag")) {
                 arguments[i] = draw(2) == 0;
                 continue;
@@ -67,72 +67,73 @@ public final class ModelTest {
         return arguments;
     }
 
-    private static Method method(Class<?> owner, String name) {
-        for (Method method : owner.getMethods()) {
-            if (method.getName().equals(name) && method.getDeclaringClass() == owner) {
-                return method;
+    private static void drawnRun(int run, Twin.Call[] calls) throws IllegalAccessException {
+        Twin twin = new Twin();
+        for (int i = 0; twin.callsLeft() > 1; i++) {
+            // Mostly acts, else questions would thin out the changes.
+            Twin.Call call = calls[draw(draw(3) == 0 ? calls.length : ACTS)];
+            Object[] arguments = drawArguments(call, twin.model);
+            String told = "run " + run + ", call " + i + ", " + call.name + Arrays.toString(arguments);
+            twin.call(told, call, arguments);
+            if (i % CALLS_BETWEEN_DIGESTS == 0) {
+                twin.sameDigest(told);
             }
         }
-        throw new AssertionError(name);
-    }
-
-    private static String answer(Object owner, Method method, Object[] arguments) throws IllegalAccessException {
-        try {
-            return String.valueOf(method.invoke(owner, arguments));
-        } catch (InvocationTargetException e) {
-            return "throws." + e.getCause().getClass().getSimpleName();
-        }
-    }
-
-    private static void drawnRun(int run, String[][] calls, Method[] own, Method[] due) throws IllegalAccessException {
-        Wordgarden garden = new Wordgarden();
-        Model model = new Model();
-        // Acts alone at first, else questions would thin out the changes.
-        for (int i = 0; i < CALLS_IN_RUN; i++) {
-            int which = draw(draw(3) == 0 ? calls.length : 23);
-            Object[] arguments = drawArguments(calls[which], model);
-            String told = "run " + run + ", call " + i + ", " + String.join(" ", calls[which])
-                    + " " + List.of(arguments);
-            Checks.same(told, answer(garden, own[which], arguments), answer(model, due[which], arguments));
-            if (i % 10 == 9) {
-                Checks.same(told + ", digest then", garden.digest(), model.digest());
-            }
-        }
+        twin.sameDigest("run " + run + ", its end");
     }
 
     private static void drawnRuns() throws IllegalAccessException {
-        String[][] calls = new String[CALLS.length][];
-        Method[] own = new Method[CALLS.length];
-        Method[] due = new Method[CALLS.length];
+        Twin.Call[] calls = new Twin.Call[CALLS.length];
         for (int i = 0; i < CALLS.length; i++) {
-            calls[i] = CALLS[i].split(" ");
-            own[i] = method(Wordgarden.class, calls[i][0]);
-            due[i] = method(Model.class, calls[i][0]);
+            calls[i] = new Twin.Call(CALLS[i]);
         }
         for (int run = 0; run < RUNS; run++) {
-            drawnRun(run, calls, own, due);
+            drawnRun(run, calls);
+        }
+    }
+
+    private static void sameOfWord(String told, int sheet, Wordgarden garden, Model model) {
+        Checks.same(told + "text", garden.text(sheet), model.text(sheet));
+        Checks.same(told + "count", garden.count(sheet, false), model.count(sheet, false));
+        Checks.same(told + "isMirrored", garden.isMirrored(sheet), model.isMirrored(sheet));
+        Checks.same(told + "times", garden.times(sheet), model.times(sheet));
+        Checks.same(told + "overlaps", garden.overlaps(sheet), model.overlaps(sheet));
+        Checks.same(told + "mirrors", garden.mirrors(sheet), model.mirrors(sheet));
+        Checks.same(told + "folds", garden.folds(sheet), model.folds(sheet));
+        Checks.same(told + "least", garden.least(sheet), model.least(sheet));
+        for (int length = 0; length <= model.length(sheet); length++) {
+            for (boolean isRing : new boolean[] {false, true}) {
+                String asked = told + length + " " + isRing;
+                Checks.same(asked + " kinds", garden.kinds(sheet, length, isRing), model.kinds(sheet, length, isRing));
+                Checks.same(asked + " spread", garden.spread(sheet, length, isRing),
+                        model.spread(sheet, length, isRing));
+            }
         }
     }
 
     private static void allShortWords() {
-        Wordgarden garden = new Wordgarden();
-        Model model = new Model();
         for (int code = 1; code < 4096; code++) {
+            Wordgarden garden = new Wordgarden();
+            Model model = new Model();
             String told = "code " + code + ": ";
             Checks.same(told + "write", garden.write(1, code), model.write(1, code));
-            Checks.same(told + "text", garden.text(1), model.text(1));
-            Checks.same(told + "count", garden.count(1, false), model.count(1, false));
-            Checks.same(told + "isMirrored", garden.isMirrored(1), model.isMirrored(1));
-            Checks.same(told + "times", garden.times(1), model.times(1));
-            Checks.same(told + "overlaps", garden.overlaps(1), model.overlaps(1));
-            Checks.same(told + "mirrors", garden.mirrors(1), model.mirrors(1));
-            Checks.same(told + "folds", garden.folds(1), model.folds(1));
-            Checks.same(told + "least", garden.least(1), model.least(1));
-            for (int length = 0; length <= model.length(1); length++) {
-                for (boolean isRing : new boolean[] {false, true}) {
-                    String asked = told + length + " " + isRing;
-                    Checks.same(asked + " kinds", garden.kinds(1, length, isRing), model.kinds(1, length, isRing));
-                    Checks.same(asked + " spread", garden.spread(1, length, isRing), model.spread(1, length, isRing));
+            sameOfWord(told, 1, garden, model);
+        }
+    }
+
+    /** Words of 64 signs and one fewer: a short one again and again, with one sign or another one set. */
+    private static void longWords() {
+        for (int code : new int[] {2, 3, 5, 9, 11, 19, 21, 45, 105, 700, 5000, 65535, 40000}) {
+            for (int place : new int[] {-1, 0, 1, 31, 32, 47, 62, 63}) {
+                for (int length = 63; length <= 64; length++) {
+                    Twin twin = new Twin();
+                    String word = Model.decoded(code).repeat(64).substring(0, length);
+                    if (place >= 0 && place < length) {
+                        word = word.substring(0, place) + (word.charAt(place) == 'a' ? 'b' : 'a')
+                                + word.substring(place + 1);
+                    }
+                    twin.stand(new String[] {"", "", word}, new int[0][]);
+                    sameOfWord(word + ": ", 2, twin.garden, twin.model);
                 }
             }
         }
@@ -140,38 +141,43 @@ public final class ModelTest {
 
     /** Each rule sent through all short words, there and back. */
     private static void allRules() {
-        Wordgarden garden = new Wordgarden();
-        Model model = new Model();
         for (int x = 2; x <= 31; x++) {
             for (int y = 2; y <= 31; y++) {
                 String told = "rule " + x + " " + y;
-                Checks.same(told + " isApart", garden.isApart(x, y), model.isApart(x, y));
-                if (!model.isApart(x, y)) {
-                    continue;
-                }
+                Checks.same(told + " isApart", new Wordgarden().isApart(x, y), new Model().isApart(x, y));
                 for (int code = 1; code < 64; code++) {
-                    garden.write(0, code);
-                    model.write(0, code);
-                    String word = model.text(0);
-                    Checks.same(told + " undo " + word, garden.undo(0, x, y), model.undo(0, x, y));
-                    Checks.same(told + " undone " + word, garden.text(0), model.text(0));
-                    garden.write(0, code);
-                    model.write(0, code);
-                    Checks.same(told + " apply " + word, garden.apply(0, x, y), model.apply(0, x, y));
-                    Checks.same(told + " image of " + word, garden.text(0), model.text(0));
-                    Checks.same(told + " back to " + word, garden.undo(0, x, y), word.length());
-                    Checks.same(told + " is back at " + word, garden.text(0), word);
-                    model.write(0, code);
+                    thereAndBack(told, x, y, code);
                 }
             }
         }
     }
 
+    private static void thereAndBack(String told, int x, int y, int code) {
+        Wordgarden garden = new Wordgarden();
+        Model model = new Model();
+        garden.write(0, code);
+        model.write(0, code);
+        String word = model.text(0);
+        boolean isApart = model.isApart(x, y);
+        if (isApart) {
+            Checks.same(told + " undo " + word, garden.undo(0, x, y), model.undo(0, x, y));
+            Checks.same(told + " undone " + word, garden.text(0), model.text(0));
+            garden.write(0, code);
+            model.write(0, code);
+        }
+        Checks.same(told + " apply " + word, garden.apply(0, x, y), model.apply(0, x, y));
+        Checks.same(told + " image of " + word, garden.text(0), model.text(0));
+        if (isApart) {
+            Checks.same(told + " back to " + word, garden.undo(0, x, y), word.length());
+            Checks.same(told + " is back at " + word, garden.text(0), word);
+        }
+    }
+
     private static void allLines() {
         for (int length = 1; length <= 64; length++) {
-            Wordgarden garden = new Wordgarden();
             for (int rise = 0; rise <= length; rise++) {
-                for (int shift = 0; shift < length; shift += 1 + length / 8) {
+                Wordgarden garden = new Wordgarden();
+                for (int shift = 0; shift < length; shift++) {
                     garden.line(2, length, rise, shift);
                     Checks.same("line " + length + " " + rise + " " + shift, garden.text(2),
                             Model.onLine(length, rise, shift));
@@ -180,9 +186,18 @@ public final class ModelTest {
         }
     }
 
+    private static Wordgarden grownBy(List<Integer> turns) {
+        Wordgarden garden = new Wordgarden();
+        for (int turn : turns) {
+            garden.grow(1, turn);
+        }
+        return garden;
+    }
+
     /** All rows of turns that a growth can have. */
-    private static void allGrowths(Wordgarden garden, List<Integer> turns) {
+    private static void allGrowths(List<Integer> turns) {
         String told = "turns " + turns + ": ";
+        Wordgarden garden = grownBy(turns);
         String[] due = Model.elderAndYounger(turns);
         Checks.same(told + "elder", garden.grown(1, true), due[0]);
         Checks.same(told + "younger", garden.grown(1, false), due[1]);
@@ -195,24 +210,26 @@ public final class ModelTest {
         Checks.same(told + "isSound", garden.isSound(), true);
         for (int turn = 1; turn <= 3; turn++) {
             int length = turn * due[1].length() + due[0].length();
-            Checks.same(told + "grow " + turn, garden.grow(1, turn), length > 64 ? -9 : length);
+            Wordgarden next = grownBy(turns);
+            Checks.same(told + "grow " + turn, next.grow(1, turn), length > 64 ? -9 : length);
             if (length <= 64) {
-                turns.add(turn);
-                allGrowths(garden, turns);
-                turns.remove(turns.size() - 1);
-                Checks.same(told + "shrink", garden.shrink(1), turn);
-                Checks.same(told + "elder is back", garden.grown(1, true), due[0]);
-                Checks.same(told + "younger is back", garden.grown(1, false), due[1]);
+                Checks.same(told + "shrink", next.shrink(1), turn);
+                List<Integer> more = new ArrayList<>(turns);
+                more.add(turn);
+                allGrowths(more);
             }
+            Checks.same(told + "elder is back", next.grown(1, true), due[0]);
+            Checks.same(told + "younger is back", next.grown(1, false), due[1]);
         }
     }
 
     public static void main(String[] arguments) throws IllegalAccessException {
         drawnRuns();
         allShortWords();
+        longWords();
         allRules();
         allLines();
-        allGrowths(new Wordgarden(), new ArrayList<>());
+        allGrowths(new ArrayList<>());
         Checks.end("ModelTest");
     }
 }
